@@ -1,6 +1,6 @@
 import java.util.NoSuchElementException;
 
-/** Lines of a network packed into forests. The promises are numbered in DOC.md. */
+/** Lines of a network packed into forests, as DOC.md promises. */
 public final class ForestPacks {
     public static final int NONE = -1;
 
@@ -501,7 +501,6 @@ public final class ForestPacks {
         return true;
     }
 
-    /** The upper (0) or the lower (1) number of a fraction in least terms. */
     private static int leastTerms(int above, int below, int what) {
         int a = below;
         int b = above;
@@ -514,18 +513,17 @@ public final class ForestPacks {
         return a == 0 ? told : told / a;
     }
 
-    /** A network with its forests: all that an act changes and an image keeps. */
+    /** All that an act changes and an image keeps, so that one copy serves both. */
     private static final class Net {
         final int[] first = new int[MOST_LINES];
         final int[] second = new int[MOST_LINES];
         final int[] weight = new int[MOST_LINES];
-        /** The forest in which a line lies, or NONE. */
         final int[] home = new int[MOST_LINES];
         int points;
         int lines;
         int k = 2;
         int broken;
-        /** The lines that are turned out of their second point. */
+        // A line whose bit is set is turned out of its second point.
         int turned;
 
         void become(Net other) {
@@ -638,7 +636,6 @@ public final class ForestPacks {
             return sum;
         }
 
-        /** The points to which lines of a set lead from a point, itself too. */
         int reach(int start, int set) {
             int reached = 1 << start;
             for (int round = 0; round < points; round++) {
@@ -668,7 +665,6 @@ public final class ForestPacks {
         }
     }
 
-    /** The bytes that were fed, each 0 to 255. */
     private static final class Tape {
         private static final int MOST_BYTES = 640;
         private static final int FEED_BYTES = 20;
@@ -700,7 +696,6 @@ public final class ForestPacks {
         }
     }
 
-    /** Reads the tape as the text of a net. */
     private static final class Reader {
         private static final int TEXT_BYTES = 600;
         private static final int MOST_LETTERS = 7;
@@ -712,6 +707,7 @@ public final class ForestPacks {
         private static final int NO_TOKEN = 4;
 
         private final Tape tape;
+        // Apart from the net in use, which stays if there is a fault.
         private final Net fresh = new Net();
         private final long[] names = new long[MOST_POINTS];
         private final long pointWord = codeOf("point");
@@ -737,7 +733,6 @@ public final class ForestPacks {
             return fault;
         }
 
-        /** How many rows there are, or -1 less the place of the fault. */
         int read() {
             fresh.clear();
             forestsTold = false;
@@ -813,7 +808,6 @@ public final class ForestPacks {
             return readSign();
         }
 
-        /** A point told ahead, unlike the other one; NONE with a fault. */
         private int readEnd(int other) {
             if (!readName()) {
                 return NONE;
@@ -878,11 +872,11 @@ public final class ForestPacks {
             }
         }
 
-        /** A word or a number that begins ahead of byte 600 is read beyond it. */
         private void readRun() {
             int letters = 0;
             int digits = 0;
             value = 0;
+            // Not only to the limit: what begins ahead of it is read whole.
             while (at < tape.size()) {
                 int sign = tape.byteAt(at);
                 if (isLetter(sign)) {
@@ -929,7 +923,6 @@ public final class ForestPacks {
         }
     }
 
-    /** What stood ahead of the latest acts. */
     private static final class Acts {
         private static final int MOST_ACTS = 8;
 
@@ -976,18 +969,16 @@ public final class ForestPacks {
         }
     }
 
-    /** Rings, chains of exchanges, and trades of two lines. */
     private static final class Chains {
         private final Net net;
-        /** The lines on the way to a point. */
-        private final int[] way = new int[MOST_POINTS];
+        private final int[] wayTo = new int[MOST_POINTS];
         private final int[] queue = new int[MOST_LINES];
-        /** The place in the queue of the line that led to this one. */
         private final int[] ledBy = new int[MOST_LINES];
         private final int[] step = new int[MOST_LINES];
         private final int[] into = new int[MOST_LINES];
         private int length;
         private int seen;
+        // Apart from the rows above, which pack() and drawn() use as well.
         private final int[] toldStep = new int[MOST_LINES];
         private final int[] toldInto = new int[MOST_LINES];
         private int toldLength;
@@ -997,27 +988,25 @@ public final class ForestPacks {
             this.net = net;
         }
 
-        /** The lines of a forest on the way between both points of a line that is not in it. */
         int ringOf(int l, int f) {
             int target = net.second[l];
             int reached = 1 << net.first[l];
-            way[net.first[l]] = 0;
+            wayTo[net.first[l]] = 0;
             for (int round = 0; round < net.points; round++) {
                 int before = reached;
                 for (int x = 0; x < net.lines; x++) {
                     if (net.home[x] == f) {
-                        reached |= step(x, reached);
+                        reached |= goAlong(x, reached);
                     }
                 }
                 if (reached == before || (reached >> target & 1) != 0) {
                     break;
                 }
             }
-            return (reached >> target & 1) != 0 ? way[target] : 0;
+            return (reached >> target & 1) != 0 ? wayTo[target] : 0;
         }
 
-        /** The point, as a set, to which a line leads from those that are reached. */
-        private int step(int x, int reached) {
+        private int goAlong(int x, int reached) {
             int a = net.first[x];
             int b = net.second[x];
             int atFirst = reached >> a & 1;
@@ -1026,18 +1015,18 @@ public final class ForestPacks {
             }
             int from = atFirst == 1 ? a : b;
             int to = atFirst == 1 ? b : a;
-            way[to] = way[from] | 1 << x;
+            wayTo[to] = wayTo[from] | 1 << x;
             return 1 << to;
         }
 
-        /** How many lines the chain of a sound line that lies in no forest has; 0: it is blocked. */
         int find(int l) {
             length = 0;
             seen = 1 << l;
             queue[0] = l;
             ledBy[0] = NONE;
             int queued = 1;
-            // Lines come to in rising order from a queue in the order of their ways: the first way found is the least.
+            // The queue stands in the order of the ways, as each line adds its own in rising order:
+            // so the first chain found is the shortest, and the least of these.
             for (int i = 0; i < queued && i < MOST_LINES; i++) {
                 int x = queue[i];
                 int free = freeForest(x);
@@ -1097,7 +1086,6 @@ public final class ForestPacks {
             }
         }
 
-        /** What was found last is what chainAt() or crowd() tell from now on. */
         void remember() {
             if (length > 0) {
                 System.arraycopy(step, 0, toldStep, 0, length);
@@ -1124,7 +1112,6 @@ public final class ForestPacks {
             return toldCrowd;
         }
 
-        /** The line with which a line is traded, or NONE. */
         int traded(int l, int f) {
             int own = net.home[l];
             if (own == NONE || own == f || !isTree(own) || !isTree(f)) {
@@ -1150,7 +1137,10 @@ public final class ForestPacks {
         }
     }
 
-    /** Sets of points and the lines with both ends in them. */
+    /**
+     * Lines can lie in k forests just if no set of points has more of them inside than k times its points less 1
+     * (Nash-Williams), so that counting lines inside of sets answers what would else take a packing.
+     */
     private static final class PointSets {
         private final Net net;
         private final int[] inner = new int[POINT_SETS];
@@ -1187,7 +1177,6 @@ public final class ForestPacks {
             countInner(itself);
         }
 
-        /** Counts sound lines for each set, each point counting as another one; not those between like ones. */
         private void countInner(int[] as) {
             int size = 1 << net.points;
             for (int s = 0; s < size; s++) {
@@ -1200,7 +1189,7 @@ public final class ForestPacks {
                     inner[1 << a | 1 << b]++;
                 }
             }
-            // From pairs to all sets: point by point each set gets what the same set without the point has.
+            // From pairs to all sets, point by point: far fewer steps than each line in each set.
             for (int p = 0; p < net.points; p++) {
                 for (int s = 0; s < size; s++) {
                     if ((s >> p & 1) != 0) {
@@ -1214,7 +1203,6 @@ public final class ForestPacks {
             findThick(itself, net.allPoints());
         }
 
-        /** The thickest set of the points told, each point of the net counting as one of these. */
         void findThick(int[] as, int among) {
             countInner(as);
             bestSet = 0;
@@ -1234,7 +1222,6 @@ public final class ForestPacks {
             }
         }
 
-        /** The set with the most inner lines above k times its points less 1; 0 without one. */
         int findCrowded(int k) {
             countInner();
             int best = 0;
@@ -1263,7 +1250,6 @@ public final class ForestPacks {
             return greatestShare(0);
         }
 
-        /** The greatest of inner lines by points less so many, rounded up. */
         private int greatestShare(int less) {
             countInner();
             int most = 0;
@@ -1291,7 +1277,6 @@ public final class ForestPacks {
             }
         }
 
-        /** Whether a line can lie in k forests with those that were taken; it is taken then. */
         private boolean take(int l, int k) {
             int ends = net.ends(l);
             int size = 1 << net.points;
@@ -1334,11 +1319,11 @@ public final class ForestPacks {
             return set;
         }
 
-        /** The lines without which fewer could lie in k forests. */
         int vitalSet(int k) {
             int set = takeByNumber(k);
             int left = net.soundSet() & ~set;
             int vital = set;
+            // A line left out can come in for any line inside of its least full set, which is not vital then.
             for (int l = 0; l < net.lines; l++) {
                 if ((left >> l & 1) != 0) {
                     vital &= ~linesIn(leastFull(l, k));
@@ -1347,7 +1332,7 @@ public final class ForestPacks {
             return vital;
         }
 
-        /** The least full set with both ends of a line that could not be taken: any line in it could give way. */
+        // What two full sets that meet have in common is full too: there is one in all of them.
         private int leastFull(int l, int k) {
             int ends = net.ends(l);
             int size = 1 << net.points;
@@ -1371,11 +1356,9 @@ public final class ForestPacks {
         }
     }
 
-    /** Points melted layer by layer. */
     private static final class Layers {
         private final Net net;
         private final PointSets sets;
-        /** The least of the points with which a point is one. */
         private final int[] as = new int[MOST_POINTS];
         private final int[] above = new int[MOST_POINTS];
         private final int[] below = new int[MOST_POINTS];
@@ -1398,7 +1381,6 @@ public final class ForestPacks {
             return i < 0 || i >= MOST_POINTS ? 0 : melted[i];
         }
 
-        /** How many layers there are. */
         int melt() {
             for (int p = 0; p < MOST_POINTS; p++) {
                 as[p] = p;
@@ -1426,7 +1408,6 @@ public final class ForestPacks {
             return false;
         }
 
-        /** Makes the points that count as one of a set one: all of them. */
         private int join(int set) {
             int least = Integer.bitCount((set & -set) - 1);
             int all = 0;
@@ -1440,11 +1421,10 @@ public final class ForestPacks {
         }
     }
 
-    /** Partings of all points into pieces. */
     private static final class Partings {
         private final Net net;
         private final PointSets sets;
-        /** The most lines inside of pieces into which a set of points (without point 0) can be parted. */
+        // For sets without point 0 alone: that lies in the piece that is taken off first.
         private int[] inside = new int[POINT_SETS];
         private int[] insideNext = new int[POINT_SETS];
         private int above;
@@ -1463,7 +1443,6 @@ public final class ForestPacks {
             return pieces;
         }
 
-        /** Two points at least. */
         void findWeakest() {
             sets.countInner();
             int all = net.allPoints();
@@ -1482,7 +1461,6 @@ public final class ForestPacks {
             }
         }
 
-        /** Tells for all sets the most lines for one piece more. */
         private void addPiece(int all) {
             for (int s = 0; s <= all; s += 2) {
                 insideNext[s] = mostInside(s);
@@ -1492,7 +1470,7 @@ public final class ForestPacks {
             insideNext = old;
         }
 
-        /** The most lines inside of pieces, one of them with the least point of a set; NONE: too few points. */
+        // One piece has the least point of the set: trying those alone leaves no parting out.
         private int mostInside(int set) {
             int least = set & -set;
             int rest = set ^ least;
@@ -1506,17 +1484,14 @@ public final class ForestPacks {
         }
     }
 
-    /** Trees that lead from a point along lines as they are turned. */
     private static final class OutTrees {
         private final Net net;
-        /** How many lines, of those that are left, lead into a set of points. */
         private final int[] entering = new int[POINT_SETS];
 
         OutTrees(Net net) {
             this.net = net;
         }
 
-        /** By how many lines at least each set of points without one is entered. */
         int countFrom(int root) {
             for (int s = 0; s <= net.allPoints(); s++) {
                 entering[s] = 0;
@@ -1561,7 +1536,6 @@ public final class ForestPacks {
             return tree;
         }
 
-        /** The next tree, of lines that are left, so that so many trees can still come. */
         private int grow(int root, int left, int toCome) {
             int come = 1 << root;
             int tree = 0;
@@ -1587,6 +1561,7 @@ public final class ForestPacks {
             return NONE;
         }
 
+        // What is left has been rooted by enough so far: only the sets that the line enters can fall short.
         private boolean canGo(int root, int l, int toCome) {
             for (int s = 1; s <= net.allPoints(); s++) {
                 if ((s >> root & 1) == 0 && enters(l, s) && entering[s] <= toCome) {
@@ -1597,18 +1572,15 @@ public final class ForestPacks {
         }
     }
 
-    /** Ways from the point with the greatest load to one with less. */
     private static final class Easing {
         private final Net net;
         private final int[] queue = new int[MOST_POINTS];
-        /** The lines on the way to a point. */
-        private final int[] way = new int[MOST_POINTS];
+        private final int[] wayTo = new int[MOST_POINTS];
 
         Easing(Net net) {
             this.net = net;
         }
 
-        /** The lines of the way, as a set; 0: there is none. */
         int findWay() {
             if (net.points == 0) {
                 return 0;
@@ -1617,19 +1589,20 @@ public final class ForestPacks {
             int enough = net.loadOf(start) - 2;
             int seen = 1 << start;
             queue[0] = start;
-            way[start] = 0;
+            wayTo[start] = 0;
             int queued = 1;
-            // Lines by number from a queue in the order of the ways: the first way found is the least.
+            // The queue stands in the order of the ways, as each point adds its lines in rising order:
+            // so the first way found is the shortest, and the least of these.
             for (int i = 0; i < queued && i < MOST_POINTS; i++) {
                 int p = queue[i];
                 if (net.loadOf(p) <= enough) {
-                    return way[p];
+                    return wayTo[p];
                 }
                 for (int l = 0; l < net.lines && queued < MOST_POINTS; l++) {
                     int next = net.head(l);
                     if (net.isSound(l) && net.tail(l) == p && (seen >> next & 1) == 0) {
                         seen |= 1 << next;
-                        way[next] = way[p] | 1 << l;
+                        wayTo[next] = wayTo[p] | 1 << l;
                         queue[queued] = next;
                         queued++;
                     }
@@ -1649,7 +1622,6 @@ public final class ForestPacks {
         }
     }
 
-    /** The game in which lines of the forests 0 and 1 are cut, and others kept. */
     private static final class Game {
         private final Net net;
         private final Tape tape;
@@ -1664,7 +1636,6 @@ public final class ForestPacks {
             this.tape = tape;
         }
 
-        /** How many lines were cut; NONE: the forests do not join all points. */
         int run() {
             if (net.points < 2 || net.k < 2) {
                 return NONE;

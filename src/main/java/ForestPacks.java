@@ -1447,8 +1447,8 @@ public final class ForestPacks {
             sets.countInner();
             int all = net.allPoints();
             int lines = sets.innerOf(all);
-            for (int s = 0; s <= all; s += 2) {
-                inside[s] = s == 0 ? NONE : sets.innerOf(s);
+            for (int s = 2; s <= all; s += 2) {
+                inside[s] = sets.innerOf(s);
             }
             pieces = 0;
             for (int count = 2; count <= net.points; count++) {
@@ -1462,7 +1462,7 @@ public final class ForestPacks {
         }
 
         private void addPiece(int all) {
-            for (int s = 0; s <= all; s += 2) {
+            for (int s = 2; s <= all; s += 2) {
                 insideNext[s] = mostInside(s);
             }
             int[] old = inside;

@@ -156,6 +156,7 @@ public final class PromiseTests {
         rows(4, "forests 5;point abcdefg;point abcdefh;line abcdefg abcdefh 1;");
         rows(1, "forests 01;");
         rows(2, "point points;point lines;");
+        rows(3, "point az;point za;line za az 10;");
         ForestPacks x = of(TRIANGLE);
         x.put(0, 0);
         x.breaks(1);

@@ -769,8 +769,9 @@ public final class ForestPacks {
             if (fresh.points >= MOST_POINTS) {
                 return fail(4);
             }
-            if (!readName()) {
-                return false;
+            nextToken();
+            if (!isName()) {
+                return fail(1);
             }
             if (pointOf(value) != NONE) {
                 return fail(3);
@@ -809,7 +810,9 @@ public final class ForestPacks {
         }
 
         private int readEnd(int other) {
-            if (!readName()) {
+            nextToken();
+            if (!isName()) {
+                fail(1);
                 return NONE;
             }
             int p = pointOf(value);
@@ -820,12 +823,8 @@ public final class ForestPacks {
             return p;
         }
 
-        private boolean readName() {
-            nextToken();
-            if (kind != WORD || value == pointWord || value == lineWord || value == forestsWord) {
-                return fail(1);
-            }
-            return true;
+        private boolean isName() {
+            return kind == WORD && value != pointWord && value != lineWord && value != forestsWord;
         }
 
         private boolean readNumber(int greatest) {

@@ -283,6 +283,15 @@ public final class AskTests {
             ForestPacks y = Check.net(2, 5, "ab bc ca cd de ec");
             told(y, "3 2 3", y::strength);
         });
+        Check.says("STRENGTH: by LINES as they are, not as they were", () -> {
+            ForestPacks x = round();
+            breakAll(x);
+            told(x, "0 1 2", x::strength);
+            for (int l = 0; l < 20; l++) {
+                x.mend(l);
+            }
+            told(x, "20 9 10", x::strength);
+        });
         Check.says("STRENGTH: of SOUND LINES alone", () -> {
             ForestPacks x = round();
             x.breaks(0);
@@ -475,6 +484,8 @@ public final class AskTests {
             Check.due("lines 5, 6", Check.set(5, 6), x.vital());
             ForestPacks y = Check.net(2, 4, "cd cd bc bc ab ab ac");
             Check.due("lines 0, 1", Check.set(0, 1), y.vital());
+            ForestPacks z = Check.net(1, 4, "ab ac bc cd");
+            Check.due("line 3", 8, z.vital());
         });
     }
 
@@ -483,6 +494,8 @@ public final class AskTests {
             Check.due("a way: nine", 9, way().layers());
             Check.due("twice round: one", 1, round().layers());
             Check.due("24 lines: one", 1, many().layers());
+            Check.due("one line: one", 1, Check.net(2, 2, "ab").layers());
+            Check.due("the first line last: two", 2, Check.net(2, 4, "ab cd cd").layers());
             Check.due("two apart: two", 2, Check.net(2, 4, "ab cd").layers());
         });
         Check.says("38: none: 0", () -> {

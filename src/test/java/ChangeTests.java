@@ -186,6 +186,19 @@ public final class ChangeTests {
             Check.due("loads", "1 2 1 0", loads(x));
             Check.due("line 2", 2, out(x, 2));
         });
+        Check.says("EASE: from one to which a way led ahead", () -> {
+            ForestPacks x = Check.net(2, 3, "ab ab bc bc bc");
+            for (int l = 2; l < 5; l++) {
+                x.breaks(l);
+            }
+            Check.due("from a to b", 1, x.ease());
+            for (int l = 2; l < 5; l++) {
+                x.mend(l);
+            }
+            x.breaks(0);
+            Check.act(x, "ease() from b to c", 1, x::ease);
+            Check.due("loads", "1 2 1", loads(x));
+        });
         Check.says("EASE: there is no such way from that one, though there is from a like one", () -> {
             ForestPacks x = Check.net(2, 4, "ab ab ba ba cd cd");
             Check.idle(x, "ease()", 0, x::ease);

@@ -7,6 +7,7 @@ public final class ForestTests {
         forests();
         line();
         ring();
+        thrown();
         forest();
         now();
         put();
@@ -198,6 +199,23 @@ public final class ForestTests {
             for (int far : Check.FAR) {
                 Check.idle(x, "ring(0, " + far + ")", Check.THROWN, () -> x.ring(0, far));
             }
+        });
+    }
+
+    private static void thrown() {
+        Check.says("a call that throws changes nothing", () -> {
+            ForestPacks x = twoTrees();
+            x.chain(6);
+            x.image(0);
+            x.weigh(0, 7);
+            x.feed(1, 2, 3, 4, 5);
+            Check.idle(x, "line(9, 0)", Check.THROWN, () -> x.line(9, 0));
+            Check.idle(x, "line(0, 5)", Check.THROWN, () -> x.line(0, 5));
+            Check.idle(x, "ring(0, 0)", Check.THROWN, () -> x.ring(0, 0));
+            Check.idle(x, "ring(0, 2)", Check.THROWN, () -> x.ring(0, 2));
+            Check.due("undo()", 6, x.undo());
+            Check.due("weight", 1, x.line(0, 2));
+            Check.due("restore(0)", true, x.restore(0));
         });
     }
 
@@ -689,6 +707,11 @@ public final class ForestTests {
             Check.due("ring of 0", Check.set(2), x.ring(0, 0));
             Check.due("trade(3, 1)", 1, x.trade(3, 1));
         });
+        Check.says("18: LINE 0 can be the other one", () -> {
+            ForestPacks x = twoTrees();
+            Check.act(x, "trade(3, 0)", 0, () -> x.trade(3, 0));
+            Check.due("in forests", "1 0 0 0 1 1", homes(x, 6));
+        });
         Check.says("18: a LINE between the same POINTS can be the other one", () -> {
             ForestPacks x = Check.net(2, 2, "ab ba");
             Check.into(x, 0, 0);
@@ -711,6 +734,10 @@ public final class ForestTests {
             ForestPacks x = twoTrees();
             x.lift(1);
             Check.idle(x, "trade(0, 1)", -1, () -> x.trade(0, 1));
+            ForestPacks y = Check.net(2, 3, "ab ab bc");
+            Check.into(y, 0, 0);
+            Check.into(y, 1, 1, 2);
+            Check.idle(y, "trade(0, 1), though neither would go round", -1, () -> y.trade(0, 1));
         });
         Check.says("18: NONE: the other one has fewer LINES than POINTS less 1", () -> {
             ForestPacks x = twoTrees();
@@ -718,6 +745,10 @@ public final class ForestTests {
             Check.idle(x, "trade(0, 1)", -1, () -> x.trade(0, 1));
             x.forests(3);
             Check.idle(x, "trade(0, 2)", -1, () -> x.trade(0, 2));
+            ForestPacks y = Check.net(2, 3, "ab ab bc");
+            Check.into(y, 0, 0);
+            Check.into(y, 1, 1, 2);
+            Check.idle(y, "trade(1, 0), though neither would go round", -1, () -> y.trade(1, 0));
         });
         Check.says("18: NONE: no such LINE", () -> {
             ForestPacks x = twoTrees();

@@ -1,11 +1,9 @@
-import java.nio.charset.StandardCharsets;
-import java.util.NoSuchElementException;
 import java.util.function.IntSupplier;
 
 /** For each promise: ordinary inputs, the edges that the document names, and wrong inputs, with answers worked by hand. */
 public final class PromiseTests {
     private static final int NONE = ForestPacks.NONE;
-    private static final int THROWN = -77;
+    private static final int THROWN = Check.THROWN;
     private static final String TRIANGLE = "point a;point b;point c;line a b 5;line b c 2;line a c 9;line a b 3;";
     private static int wrong = 0;
     private static int promise = 0;
@@ -61,24 +59,11 @@ public final class PromiseTests {
     }
 
     private static int thrown(IntSupplier call) {
-        try {
-            return call.getAsInt();
-        } catch (NoSuchElementException e) {
-            return THROWN;
-        }
+        return Check.thrown(call);
     }
 
     private static void tape(ForestPacks x, String text) {
-        byte[] all = text.getBytes(StandardCharsets.ISO_8859_1);
-        int ahead = x.now(8);
-        for (int i = 0; i < all.length; i += 20) {
-            int[] five = new int[5];
-            for (int j = 0; j < 20; j++) {
-                five[j / 4] = five[j / 4] << 8 | (i + j < all.length ? all[i + j] & 255 : 0);
-            }
-            x.feed(five[0], five[1], five[2], five[3], five[4]);
-        }
-        x.end(ahead + all.length);
+        Check.tape(x, text);
     }
 
     private static ForestPacks of(String text) {
